@@ -9,6 +9,7 @@ public final class AccountsTest {
         faultNone();
         faultOfUppers();
         faultOfOthers();
+        faultAtTheEnd();
         lay();
         layTellsLastOnes();
         layForgets();
@@ -79,18 +80,32 @@ public final class AccountsTest {
 
     private static void faultOfUppers() {
         for (String text : new String[] {"p", "p0", "p1;", "p02;", "pa;", "p0t;", "p 0;", "p0 ;", "P0;", ";", " p0;",
-                "w1;p0;", "f;", "g0;", "p0123456789abcdefghijklmnopqrs0;", "p000000000b;", "p0000000000b;", "p-;", "p:;"}) {
+                "w1;p0;", "f;", "g0;", "p0123456789abcdefghijklmnopqrs0;", "p000000000b;", "p0000000000b;", "p-;", "p:;", "pW;", "p0X;", "p0A;", "p0`;"}) {
             check.due("4: fault of " + text, Check.faultOf(text), 0);
         }
     }
 
     private static void faultOfOthers() {
         for (String text : new String[] {"p0;p0;", "p0;p;", "p0;w", "p0;w1", "p0;w123;", "p0;wa;", "p0;f1a;", "p0;gs;",
-                "p0;x;", "p0;;", "p0; ", "p0;W1;", "p0;w1 ;", "p0;w1,2;", "p0;f012;", "p0;g000;", "p0;9;", "p0;w/;"}) {
+                "p0;x;", "p0;;", "p0; ", "p0;W1;", "p0;w1 ;", "p0;w1,2;", "p0;f012;", "p0;g000;", "p0;9;", "p0;w/;", "p0;wX;", "p0;f`;", "p0;gZ;"}) {
             check.due("4: fault of " + text, Check.faultOf(text), 3);
         }
         check.due("4: the first of two", Check.faultOf("p00;w12;f1234;x;"), 8);
+        check.due("4: a p once more, one post", Check.faultOf("p;p;"), 2);
         check.due("4: behind good ones", Check.faultOf("p;w1;f2;g3;w45;"), 11);
+    }
+
+    /** Letters that were wiped, or that lie behind the last one, are not of the text. */
+    private static void faultAtTheEnd() {
+        HeavyChains x = new HeavyChains();
+        Check.write(x, "p0;w1;");
+        x.wipe();
+        Check.write(x, "p0");
+        check.due("4: a ; that was wiped", x.fault(), 0);
+        check.due("4: count(7)", x.count(7), 2);
+        check.due("4: a sign at the 200th letter", Check.faultOf("p" + "0".repeat(199)), 0);
+        check.due("4: an item at the 200th letter", Check.faultOf("p;" + "w;".repeat(99)), Check.NONE);
+        check.due("4: a letter at the 200th", Check.faultOf("p0;" + "w;".repeat(98) + "w"), 199);
     }
 
     private static void lay() {

@@ -467,9 +467,12 @@ public final class HeavyChains {
             for (int i = 1; i < posts; i++) {
                 chooseHeavy(upper[i], i);
             }
-            chains = 0;
-            for (int i = 0; i < posts; i++) {
-                settlePost(i);
+            chains = 1;
+            depth[0] = 0;
+            head[0] = 0;
+            putAt(0, 0);
+            for (int i = 1; i < posts; i++) {
+                placeLower(i);
             }
         }
 
@@ -479,22 +482,26 @@ public final class HeavyChains {
             }
         }
 
-        /** The upper post is settled already; its free place is where its next lower one begins that is not heavy. */
-        private void settlePost(int i) {
-            boolean goesOn = i > 0 && heavy[upper[i]] == i;
-            depth[i] = i > 0 ? depth[upper[i]] + 1 : 0;
-            head[i] = goesOn ? head[upper[i]] : i;
-            if (goesOn) {
-                place[i] = place[upper[i]] + 1;
+        /** The upper post lies already. */
+        private void placeLower(int i) {
+            int over = upper[i];
+            depth[i] = depth[over] + 1;
+            if (heavy[over] == i) {
+                head[i] = head[over];
+                putAt(i, place[over] + 1);
             } else {
-                place[i] = i > 0 ? free[upper[i]] : 0;
+                head[i] = i;
                 chains++;
+                putAt(i, free[over]);
+                free[over] += size[i];
             }
-            if (i > 0 && !goesOn) {
-                free[upper[i]] += size[i];
-            }
-            free[i] = place[i] + 1 + (heavy[i] == NONE ? 0 : size[heavy[i]]);
-            row[place[i]] = i;
+        }
+
+        /** Room for the heavy one stays right behind; free is where the next of the others begins. */
+        private void putAt(int i, int where) {
+            place[i] = where;
+            row[where] = i;
+            free[i] = where + 1 + (heavy[i] == NONE ? 0 : size[heavy[i]]);
         }
 
         /** Of two different posts the higher number is not above the other, so it is the one to go up. */
